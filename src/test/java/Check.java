@@ -1,6 +1,6 @@
 /** Counts and prints the answers that are not the due ones; every test of the project ends with it. */
 final class Check {
-    static final int NO_LINES_AFTER = 50;
+    private static final int MOST_LINES = 50;
     private static int wrong = 0;
 
     private Check() {
@@ -9,7 +9,7 @@ final class Check {
     static void due(String what, long got, long want) {
         if (got != want) {
             wrong++;
-            if (wrong <= NO_LINES_AFTER) {
+            if (wrong <= MOST_LINES) {
                 System.out.println(what + " answered " + got + ", due is " + want);
             }
         }
@@ -59,7 +59,7 @@ final class Check {
     static void same(String what, String got, String want) {
         if (!got.equals(want)) {
             wrong++;
-            if (wrong <= NO_LINES_AFTER) {
+            if (wrong <= MOST_LINES) {
                 System.out.println(what + ": seen is " + got + ", due is " + want);
             }
         }

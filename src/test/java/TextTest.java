@@ -6,6 +6,7 @@ public final class TextTest {
         reset();
         eachPartOfTheSyntax();
         eachKindOfError();
+        lastPositionRepeats();
         cappedErrors();
         earlierValuesStay();
         errorsAtAnyIndex();
@@ -97,6 +98,14 @@ public final class TextTest {
         Check.feedAll(Check.compiled(3, "abc"), "zac", 3, 2, 1);
         Check.feedAll(Check.compiled(1, "ab"), "ba", 1, 1);
         Check.feedAll(Check.compiled(7, "abcdef"), "af", 5, 4);
+    }
+
+    private static void lastPositionRepeats() {
+        ApproxRegexSearch x = Check.compiled(0, "a".repeat(62) + "z+");
+        for (int j = 1; j <= 70; j++) {
+            Check.due("feed " + j + " for 63 positions", x.feed(j <= 62 ? 'a' : 'z'), j <= 62 ? 1 : 0);
+        }
+        Check.due("whole for 63 positions", x.wholeDistance(), 0);
     }
 
     private static void cappedErrors() {
