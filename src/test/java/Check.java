@@ -1,17 +1,39 @@
+import java.util.Set;
+import java.util.TreeSet;
+
 /** Counts and prints the answers that are not the due ones; every test of the project ends with it. */
 final class Check {
     private static final int MOST_LINES = 50;
+    private static final int AROUND = 60;
     private static int wrong = 0;
+    private static String sentence = "";
+    private static final Set<String> broken = new TreeSet<>();
 
     private Check() {
     }
 
+    /** Runs the test of one sentence of the document; a failure tells the sentence, and the other tests still run. */
+    static void sentence(String promiseAndSentence, Runnable test) {
+        sentence = promiseAndSentence;
+        try {
+            test.run();
+        } catch (RuntimeException thrown) {
+            tell("a call threw " + thrown);
+        }
+        sentence = "";
+    }
+
+    private static void tell(String line) {
+        wrong++;
+        boolean first = broken.add(sentence);
+        if (first || wrong <= MOST_LINES) {
+            System.out.println((sentence.isEmpty() ? "" : "[" + sentence + "] ") + line);
+        }
+    }
+
     static void due(String what, long got, long want) {
         if (got != want) {
-            wrong++;
-            if (wrong <= MOST_LINES) {
-                System.out.println(what + " answered " + got + ", due is " + want);
-            }
+            tell(what + " answered " + got + ", due is " + want);
         }
     }
 
@@ -58,11 +80,18 @@ final class Check {
 
     static void same(String what, String got, String want) {
         if (!got.equals(want)) {
-            wrong++;
-            if (wrong <= MOST_LINES) {
-                System.out.println(what + ": seen is " + got + ", due is " + want);
+            int at = 0;
+            while (at < got.length() && at < want.length() && got.charAt(at) == want.charAt(at)) {
+                at++;
             }
+            tell(what + ": seen is " + around(got, at) + ", due is " + around(want, at));
         }
+    }
+
+    private static String around(String s, int at) {
+        int from = Math.max(0, at - AROUND);
+        int to = Math.min(s.length(), at + AROUND);
+        return (from > 0 ? ".." : "") + s.substring(from, to) + (to < s.length() ? ".." : "");
     }
 
     static void end() {
