@@ -104,7 +104,8 @@ public final class PatternEntryTest {
         ApproxRegexSearch x = Check.compiled(1, "ab");
         Check.feedAll(x, "ab", 1, 0);
         String before = Check.seen(x);
-        for (char c : new char[] {'A', '0', ' ', '\n', '{', '`', '^', '\\', '-', ',', '\u00e9', '\u0161', '\uff41', '\uffff'}) {
+        for (char c : new char[] {'A', '0', ' ', '\n', '{', '`', '^', '\\', '-', ',', '\u00e9', '\u0161', '\uff41',
+            '\uffff'}) {
             Check.due("not allowed", x.patternChar(c), -1);
         }
         Check.same("refused while compiled", Check.seen(x), before);
